@@ -216,25 +216,41 @@ public final class PromisesTest {
 
     private static void choiceOfMaker() {
         for (int v = 0; v < 8; v++) {
-            int position = 1 << v;
-            due("6: free, " + v, new QbfDesk().choice(position), 0);
-            due("6: 0 alone wins, " + v, withClauses(is(v, 0)).choice(position), 0);
-            due("6: 1 alone wins, " + v, withClauses(is(v, 1)).choice(position), 1);
-            due("6: none wins, " + v, withClauses(is(v, 1), is(v, 0)).choice(position), 2);
+            choiceOfMakerIn(1 << v, v);
+            choiceOfMakerIn((2 << v) - 1, v);
         }
+    }
+
+    private static void choiceOfMakerIn(int position, int v) {
+        due("6: free, " + position, forMakerAlone(v).choice(position), 0);
+        due("6: 0 alone wins, " + position, forMakerAlone(v, is(v, 0)).choice(position), 0);
+        due("6: 1 alone wins, " + position, forMakerAlone(v, is(v, 1)).choice(position), 1);
+        due("6: none wins, " + position, forMakerAlone(v, is(v, 1), is(v, 0)).choice(position), 2);
     }
 
     private static void choiceOfBreaker() {
         for (int v = 0; v < 8; v++) {
-            int position = (2 << v) - 1;
-            due("6: none breaks, " + v, forBreaker(v).choice(position), 2);
-            due("6: 1 alone breaks, " + v, forBreaker(v, is(v, 0)).choice(position), 1);
-            due("6: 0 alone breaks, " + v, forBreaker(v, is(v, 1)).choice(position), 0);
-            due("6: both break, " + v, forBreaker(v, 0).choice(position), 0);
+            choiceOfBreakerIn(1 << v, v);
+            choiceOfBreakerIn((2 << v) - 1, v);
         }
     }
 
-    private static QbfDesk forBreaker(int v, int... clauses) {
+    private static void choiceOfBreakerIn(int position, int v) {
+        due("6: none breaks, " + position, forBreakerAlone(v).choice(position), 2);
+        due("6: 1 alone breaks, " + position, forBreakerAlone(v, is(v, 0)).choice(position), 1);
+        due("6: 0 alone breaks, " + position, forBreakerAlone(v, is(v, 1)).choice(position), 0);
+        due("6: both break, " + position, forBreakerAlone(v, 0).choice(position), 0);
+    }
+
+    private static QbfDesk forMakerAlone(int v, int... clauses) {
+        QbfDesk desk = withClauses(clauses);
+        for (int other = 0; other < 8; other++) {
+            desk.give(other, other == v);
+        }
+        return desk;
+    }
+
+    private static QbfDesk forBreakerAlone(int v, int... clauses) {
         QbfDesk desk = withClauses(clauses);
         desk.give(v, false);
         return desk;
